@@ -77,7 +77,9 @@ public final class CellTransactions {
         present.clear();
         text.fill(present, programs);
         history.forgetAll();
-        Arrays.fill(slotFilled, false);
+        for (int slot = 0; slot < SAVE_SLOTS; slot++) {
+            slotFilled[slot] = false;
+        }
         return present.threads;
     }
 
@@ -363,7 +365,7 @@ public final class CellTransactions {
                 world.values[c] = digitAt(1 + c);
             }
             int at = 1 + CELLS;
-            for (int t = 0; t < MAX_THREADS && at < length; t++) {
+            for (int t = 0; t < MAX_THREADS && t < programs.length && at < length; t++) {
                 int runs = digitAt(at + 1);
                 at = fillProgram(programs[t], at + 2);
                 world.addThread(runs);
@@ -716,7 +718,7 @@ public final class CellTransactions {
 
         int threadsDone() {
             int done = 0;
-            for (int t = 0; hasThread(t); t++) {
+            for (int t = 0; t < threads && t < MAX_THREADS; t++) {
                 if (workers[t].condition == DONE) {
                     done++;
                 }
@@ -746,7 +748,7 @@ public final class CellTransactions {
             }
             values[c] = v;
             versions[c]++;
-            for (int t = 0; hasThread(t); t++) {
+            for (int t = 0; t < threads && t < MAX_THREADS; t++) {
                 if (workers[t].condition == WAITING && workers[t].reads.holds(c)) {
                     workers[t].startAgain();
                 }
@@ -1033,7 +1035,7 @@ public final class CellTransactions {
             for (int k = 0; k < points.size && k < KeySet.ROOM; k++) {
                 long point = points.keys[k];
                 boolean ended = true;
-                for (int t = 0; world.hasThread(t); t++) {
+                for (int t = 0; t < world.threads && t < MAX_THREADS; t++) {
                     if (canRun(point, t)) {
                         points.add(afterTransaction(point, t));
                         ended = false;
@@ -1047,7 +1049,7 @@ public final class CellTransactions {
 
         long firstPoint() {
             long point = valueBits(world.values);
-            for (int t = 0; world.hasThread(t); t++) {
+            for (int t = 0; t < world.threads && t < MAX_THREADS; t++) {
                 if (world.workers[t].condition == FAILED) {
                     point |= failedBit(t);
                 } else {
