@@ -11,6 +11,7 @@ public final class ActionsTest {
         invariantsThatWereTakenBack();
         undoEachAction();
         undoWhatAThreadHas();
+        undoOpenBlocks();
         undoFourteen();
         undoAndGoOn();
         errorsAreNoActions();
@@ -128,6 +129,34 @@ public final class ActionsTest {
         Check.due("undo()", x.undo(), 0);
         Check.due("runsLeft(0)", x.runsLeft(0), 2);
         Check.due("value(0)", x.value(0), 101);
+    }
+
+    /** What is remembered with open blocks comes back, though other blocks were open in between. */
+    private static void undoOpenBlocks() {
+        CellTransactions x = Check.loaded("M000000t1+1w1(+1!|+2w2){+4w3x}+8!.");
+        Check.goOn(x, 0, 4);
+        Check.goOn(x, 0, 4);
+        Check.due("position(0) behind the alternative", x.position(0), 9);
+        Check.goOn(x, 0, 2);
+        Check.due("openBlocks(0) in the nested block", x.openBlocks(0), 1);
+        for (int k = 9; k >= 4; k--) {
+            Check.due("undo()", x.undo(), k);
+        }
+        Check.due("position(0) before the retry", x.position(0), 4);
+        Check.due("step(0) retries", x.step(0), CellTransactions.WENT_ON);
+        Check.due("position(0) in the second branch", x.position(0), 6);
+        Check.due("accumulator(0)", x.accumulator(0), 101);
+        Check.due("writeSet(0)", x.writeSet(0), 2);
+        Check.goOn(x, 0, 6);
+        Check.due("position(0) before the abandonment", x.position(0), 12);
+        Check.goOn(x, 0, 2);
+        Check.due("accumulator(0) behind it", x.accumulator(0), 111);
+        Check.due("undo()", x.undo(), 12);
+        Check.due("undo()", x.undo(), 11);
+        Check.goOn(x, 0, 1);
+        Check.due("accumulator(0) is what was remembered", x.accumulator(0), 103);
+        Check.due("writeSet(0)", x.writeSet(0), 6);
+        Check.due("position(0)", x.position(0), 14);
     }
 
     private static void undoFourteen() {

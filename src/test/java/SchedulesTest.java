@@ -16,6 +16,7 @@ public final class SchedulesTest {
         fromThePresentState();
         sixTransactions();
         schedulesChangeNothing();
+        eachCallLooksAnew();
         greatestOutcomes();
         observations();
         lastFourObservations();
@@ -137,6 +138,7 @@ public final class SchedulesTest {
         Check.goOn(x, 0, 2);
         x.setCell(0, 90);
         Check.due("greatestOutcome(0): positions and logs are forgotten", x.greatestOutcome(0), 192);
+        outcomes("positions and logs are forgotten", x, 1, 0);
         x.run(0);
         Check.due("greatestOutcome(0) with one run left", x.greatestOutcome(0), 192);
         x.run(0);
@@ -211,6 +213,33 @@ public final class SchedulesTest {
             Check.due("runsLeft(0)", x.runsLeft(0), 2);
         }
         Check.due("undo()", x.undo(), 3);
+    }
+
+    private static void eachCallLooksAnew() {
+        CellTransactions x = Check.loaded("M000000t1r0?1.t1r1?1.");
+        Check.due("canDeadlock()", x.canDeadlock(), 1);
+        x.setCell(0, 1);
+        Check.due("canDeadlock(): thread 1 only", x.canDeadlock(), 1);
+        x.setCell(1, 1);
+        Check.due("canDeadlock(): no more", x.canDeadlock(), 0);
+        x.undo();
+        Check.due("canDeadlock(): again", x.canDeadlock(), 1);
+        x = Check.loaded("M000000t1+1w0.t1+2w0.t1x.");
+        Check.due("possibleOutcomes()", x.possibleOutcomes(), 2);
+        x.step(2);
+        x.run(1);
+        Check.due("possibleOutcomes() with one thread left", x.possibleOutcomes(), 1);
+        x.clearText();
+        Check.type(x, "M000000t1+1w0.t1+2w0.");
+        x.load();
+        Check.due("greatestOutcome(0) after load", x.greatestOutcome(0), 102);
+        Check.due("canDeadlock() after load", x.canDeadlock(), 0);
+        Check.due("outcomeCount() after load", x.outcomeCount(), 2);
+        x.addInvariant(0, 0, 3);
+        Check.due("greatestOutcome(0) under an invariant", x.greatestOutcome(0), 102);
+        Check.due("outcomeCount(): thread 0 fails in any order", x.outcomeCount(), 1);
+        x.addInvariant(1, 1, 1);
+        Check.due("outcomeCount(): all fail", x.outcomeCount(), 1);
     }
 
     private static void greatestOutcomes() {

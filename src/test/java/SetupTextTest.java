@@ -236,6 +236,13 @@ public final class SetupTextTest {
         Check.due("load() of two", x.load(), 2);
         Check.due("state(2) of two", x.state(2), CellTransactions.NO_SUCH_INDEX);
         Check.due("step(0) by the new program", x.step(0), CellTransactions.COMMITTED);
+        x.clearText();
+        Check.type(x, "M000000t1(!|+3)w0.t1{x+1}w1.");
+        Check.due("load() of longer programs", x.load(), 2);
+        Check.due("run(0)", x.run(0), 5);
+        Check.due("run(1)", x.run(1), 3);
+        Check.due("value(0)", x.value(0), 103);
+        Check.due("version(1)", x.version(1), 1);
     }
 
     private static void loadKeepsAndForgets() {
@@ -252,7 +259,9 @@ public final class SetupTextTest {
         x.setCell(0, 1);
         x.setCell(2, 1);
         Check.due("restarts(1)", x.restarts(1), 1);
-        Check.due("undo()", x.undo(), 4);
+        x.setCell(5, 1);
+        Check.due("undo()", x.undo(), 5);
+        Check.due("restarts(1)", x.restarts(1), 1);
         Check.due("load() again", x.load(), 2);
         Check.due("undo() after load", x.undo(), NOT_POSSIBLE);
         Check.due("restore(0) after load", x.restore(0), NOT_POSSIBLE);

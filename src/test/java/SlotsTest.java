@@ -47,6 +47,10 @@ public final class SlotsTest {
         x.run(1);
         x.run(2);
         Check.due("save(0)", x.save(0), 2);
+        x.clearText();
+        Check.type(x, "M000000t1.");
+        x.load();
+        Check.due("save(0): threads of an earlier setup do not count", x.save(0), 0);
     }
 
     private static void wholeState() {
