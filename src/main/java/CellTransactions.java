@@ -207,7 +207,7 @@ public final class CellTransactions {
     public int possibleOutcomes() {
         schedules.explore(present);
         int possible = 0;
-        for (int k = 0; k < schedules.outcomes.size; k++) {
+        for (int k = 0; k < schedules.outcomes.size && k < KeySet.ROOM; k++) {
             if (observations.allow(schedules.outcomes.keys[k])) {
                 possible++;
             }
@@ -217,7 +217,7 @@ public final class CellTransactions {
 
     public int canDeadlock() {
         schedules.explore(present);
-        for (int k = 0; k < schedules.outcomes.size; k++) {
+        for (int k = 0; k < schedules.outcomes.size && k < KeySet.ROOM; k++) {
             if ((schedules.outcomes.keys[k] & Schedules.ALL_BLOCKED) != 0) {
                 return 1;
             }
@@ -231,7 +231,7 @@ public final class CellTransactions {
         }
         schedules.explore(present);
         int greatest = -MAX_VALUE;
-        for (int k = 0; k < schedules.outcomes.size; k++) {
+        for (int k = 0; k < schedules.outcomes.size && k < KeySet.ROOM; k++) {
             greatest = Math.max(greatest, Schedules.cellValue(schedules.outcomes.keys[k], c));
         }
         return greatest + ANSWER_SHIFT;

@@ -1,7 +1,8 @@
 /** Long runs of calls, made by a plain row of numbers, on the class and on the Model: both must answer the same. */
 public final class ModelTest {
     private static final int OBJECTS = 3000;
-    private static final int CALLS = 512;
+    /** An object is good for 512 calls; the last draw may make some twenty of them. */
+    private static final int CALLS = 490;
 
     private long row = 20261120;
     private CellTransactions x;

@@ -201,9 +201,8 @@ public final class SetupTextTest {
     }
 
     private static void follows(String prefix, String signs) {
-        CellTransactions x = new CellTransactions();
         for (char sign = 0; sign <= 255; sign++) {
-            x.clearText();
+            CellTransactions x = new CellTransactions();
             Check.type(x, prefix + sign);
             int at = x.errorPosition();
             boolean allowed = at == NONE || at == prefix.length() + 1;
